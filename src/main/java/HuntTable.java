@@ -949,7 +949,6 @@ public final class HuntTable {
         private final int[] sizes = new int[MOST_WORTHS];
         private final int[] waiting = new int[MOST_WAITING];
         private final int[] letters = new int[LETTERS];
-        private int waits;
         private int size;
         private int holding = NONE;
 
@@ -1013,22 +1012,29 @@ public final class HuntTable {
         }
 
         private int run(int[] code, int codeSize) {
-            waits = 0;
+            int waits = 0;
             int next = 0;
             for (int done = 0; done < codeSize && next < codeSize; done++) {
                 int word = code[next];
                 next++;
-                if (word == STOP) {
-                    return pop();
-                }
-                if (word >= JUMP) {
-                    if (pop() == 0) {
+                if (word < SIGN) {
+                    if (waits >= MOST_WAITING) {
+                        return 0;
+                    }
+                    waiting[waits] = word < LETTER ? word : letterValue(word - LETTER);
+                    waits++;
+                } else if (waits == 0) {
+                    return 0;
+                } else if (word < JUMP) {
+                    waits = join(word - SIGN, waits);
+                } else {
+                    waits--;
+                    if (word == STOP) {
+                        return waiting[waits];
+                    }
+                    if (waiting[waits] == 0) {
                         next = Math.max(next, word - JUMP);
                     }
-                } else if (word >= SIGN) {
-                    push(join(word - SIGN));
-                } else {
-                    push(word < LETTER ? word : letterValue(word - LETTER));
                 }
             }
             return 0;
@@ -1038,27 +1044,21 @@ public final class HuntTable {
             return letter >= 0 && letter < LETTERS ? letters[letter] : 0;
         }
 
-        private void push(int value) {
-            if (waits < MOST_WAITING) {
-                waiting[waits] = value;
-                waits++;
+        /** Puts what a sign makes of the last that wait in their place: how many wait then. */
+        private int join(int sign, int waits) {
+            int last = waits - 1;
+            if (sign == '!') {
+                waiting[last] = 1 - waiting[last];
+                return waits;
             }
-        }
-
-        private int pop() {
-            if (waits == 0) {
+            if (last == 0) {
                 return 0;
             }
-            waits--;
-            return waiting[waits];
+            waiting[last - 1] = joined(sign, waiting[last - 1], waiting[last]);
+            return last;
         }
 
-        private int join(int sign) {
-            int right = pop();
-            if (sign == '!') {
-                return right == 0 ? 1 : 0;
-            }
-            int left = pop();
+        private static int joined(int sign, int left, int right) {
             switch (sign) {
                 case '=':
                     return left == right ? 1 : 0;
@@ -1689,6 +1689,9 @@ public final class HuntTable {
         private int[] tableOrders;
         private boolean tablesKnown;
         private int tableCount;
+        private int mostTables;
+        // As left, less what the search itself rules out.
+        private final int[][] open = new int[MOST_SIDE][MOST_SIDE];
         private final int[] rising = new int[MOST_SIDE];
         private final int[] placesUsed = new int[MOST_SIDE];
         private final int[] turnUsed = new int[MOST_SIDE];
@@ -1727,12 +1730,16 @@ public final class HuntTable {
             return size;
         }
 
-        /** By sets of places rising: in how many ways a set can be gone through in the first turns. */
         int fittingOrders(int band) {
+            return hunt.hasBand(band) ? waysThrough(left[band]) : 0;
+        }
+
+        /** By sets of places rising: in how many ways a set can be gone through in the first turns. */
+        private int waysThrough(int[] allowed) {
             int all = (1 << hunt.places()) - 1;
             ways[0] = 1;
-            for (int set = 1; set <= all && set < ways.length; set++) {
-                int last = set & left[band][Integer.bitCount(set) - 1];
+            for (int set = 1; set <= all; set++) {
+                int last = set & allowed[Integer.bitCount(set) - 1];
                 ways[set] = 0;
                 for (int place = 0; place < hunt.places(); place++) {
                     if ((last >> place & 1) == 1) {
@@ -1768,19 +1775,78 @@ public final class HuntTable {
                 tableOrders = new int[MOST_TABLES * MOST_SIDE];
             }
             clearSearch();
-            if (eachBandFits()) {
-                fill(0, 0);
+            if (someAreLawful()) {
+                tableCount = 0;
+                openWhatIsLeft();
+                fillIfItCanBe(MOST_TABLES);
             }
             tablesKnown = true;
         }
 
-        private boolean eachBandFits() {
+        /**
+         * Whether there are lawful tables whatever is found. The law does not look at which place is which, so one with
+         * band 0 going by numbers stands for all: a long search that must end with nothing is spared.
+         */
+        private boolean someAreLawful() {
             for (int band = 0; band < hunt.bands(); band++) {
-                if (fittingOrders(band) == 0) {
-                    return false;
+                for (int turn = 0; turn < hunt.places(); turn++) {
+                    open[band][turn] = band == 0 ? 1 << turn : (1 << hunt.places()) - 1;
                 }
             }
-            return true;
+            fillIfItCanBe(1);
+            return tableCount > 0;
+        }
+
+        private void openWhatIsLeft() {
+            for (int band = 0; band < hunt.bands(); band++) {
+                for (int turn = 0; turn < hunt.places(); turn++) {
+                    open[band][turn] = left[band][turn];
+                }
+            }
+        }
+
+        private void fillIfItCanBe(int most) {
+            mostTables = most;
+            shutWhereOthersMustBe();
+            for (int band = 0; band < hunt.bands(); band++) {
+                if (waysThrough(open[band]) == 0) {
+                    return;
+                }
+            }
+            fill(0, 0);
+        }
+
+        private void shutWhereOthersMustBe() {
+            boolean more = true;
+            for (int round = 0; round < MOST_SIDE * MOST_SIDE && more; round++) {
+                more = false;
+                for (int band = 0; band < hunt.bands(); band++) {
+                    for (int turn = 0; turn < hunt.places(); turn++) {
+                        if (Integer.bitCount(open[band][turn]) == 1 && shutElsewhere(band, turn)) {
+                            more = true;
+                        }
+                    }
+                }
+            }
+        }
+
+        /** Where a band must be in a turn, no other is then and it is in no other turn. */
+        private boolean shutElsewhere(int band, int turn) {
+            int must = open[band][turn];
+            int shut = 0;
+            for (int other = 0; other < hunt.bands(); other++) {
+                if (other != band) {
+                    shut |= open[other][turn] & must;
+                    open[other][turn] &= ~must;
+                }
+            }
+            for (int other = 0; other < hunt.places(); other++) {
+                if (other != turn) {
+                    shut |= open[band][other] & must;
+                    open[band][other] &= ~must;
+                }
+            }
+            return shut != 0;
         }
 
         private void clearSearch() {
@@ -1806,9 +1872,9 @@ public final class HuntTable {
                 fill(band + 1, 0);
                 return;
             }
-            int open = left[band][turn] & ~placesUsed[band] & ~turnUsed[turn];
-            for (int place = 0; place < hunt.places() && tableCount < MOST_TABLES; place++) {
-                if ((open >> place & 1) == 1) {
+            int free = open[band][turn] & ~placesUsed[band] & ~turnUsed[turn];
+            for (int place = 0; place < hunt.places() && tableCount < mostTables; place++) {
+                if ((free >> place & 1) == 1) {
                     int ahead = turn > 0 ? who[turn - 1][place] : NONE;
                     int behind = turn + 1 < hunt.places() ? who[turn + 1][place] : NONE;
                     if (mayFollow(band, ahead) && mayFollow(behind, band)) {
