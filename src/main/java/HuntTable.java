@@ -70,33 +70,19 @@ public final class HuntTable {
     }
 
     public int text(int sort) {
-        if (sort == SORT_HUNT) {
-            return takeHunt();
+        if (sort == SORT_HUNT && huntReader.read() == NONE) {
+            tape.cut(0);
+            hunt.copyFrom(huntReader.draft());
+            table.reset();
+            past.forget();
+            finds.forget();
+            return hunt.bands();
         }
-        if (sort == SORT_WORTH) {
-            return takeWorth();
+        if (sort == SORT_WORTH && worths.hasRoom() && worthReader.read() == NONE) {
+            tape.cut(0);
+            return worths.keep(worthReader.code(), worthReader.size());
         }
         return NONE;
-    }
-
-    private int takeHunt() {
-        if (huntReader.read() != NONE) {
-            return NONE;
-        }
-        tape.cut(0);
-        hunt.copyFrom(huntReader.draft());
-        table.reset();
-        past.forget();
-        finds.forget();
-        return hunt.bands();
-    }
-
-    private int takeWorth() {
-        if (!worths.hasRoom() || worthReader.read() != NONE) {
-            return NONE;
-        }
-        tape.cut(0);
-        return worths.keep(worthReader.code(), worthReader.size());
     }
 
     public int place(int place, int what) throws NoSuchElementException {
@@ -443,15 +429,12 @@ public final class HuntTable {
             position = 0;
         }
 
-        private int signHere() {
-            return position < length ? bytes[position] : THE_END;
-        }
-
+        /** The sign behind blanks, at which the position is then. */
         int nextSign() {
             while (position < length && bytes[position] == BLANK) {
                 position++;
             }
-            return signHere();
+            return position < length ? bytes[position] : THE_END;
         }
 
         void pass() {
@@ -460,6 +443,13 @@ public final class HuntTable {
             }
         }
 
+        void stepBack() {
+            if (position > 0) {
+                position--;
+            }
+        }
+
+        /** Passes a sign; another one is not passed, the position being at it. */
         boolean take(int sign) {
             if (nextSign() != sign) {
                 return false;
@@ -478,11 +468,12 @@ public final class HuntTable {
                 return NONE;
             }
             int number = 0;
-            for (int digits = 0; digits < mostDigits && isDigit(signHere()); digits++) {
-                number = number * BASE + signHere() - '0';
-                pass();
+            int bound = Math.min(length, position + mostDigits);
+            while (position < bound && isDigit(bytes[position])) {
+                number = number * BASE + bytes[position] - '0';
+                position++;
             }
-            return isDigit(signHere()) ? NONE : number;
+            return position < length && isDigit(bytes[position]) ? NONE : number;
         }
     }
 
@@ -608,7 +599,10 @@ public final class HuntTable {
         }
     }
 
-    /** Reads the tape as a hunt into a draft, so that a faulty text changes no hunt. */
+    /**
+     * Reads the tape as a hunt into a draft, so that a faulty text changes no hunt. Where a method that reads answers
+     * false, the tape's position is the fault.
+     */
     private static final class HuntReader {
         private static final int MOST_DIGITS = 2;
         private static final int MOST_ITEMS = 2;
@@ -618,7 +612,6 @@ public final class HuntTable {
         private final Tape tape;
         private final Hunt draft = new Hunt();
         private boolean lawTold;
-        private int fault;
 
         HuntReader(Tape tape) {
             this.tape = tape;
@@ -632,37 +625,24 @@ public final class HuntTable {
             tape.rewind();
             draft.clear();
             lawTold = false;
-            fault = NONE;
-            if (readClauses() && !draft.isWhole()) {
-                fault = tape.length();
-            }
-            return fault;
-        }
-
-        private boolean failHere() {
-            fault = tape.position();
-            return false;
-        }
-
-        private boolean readClauses() {
             for (int clauses = 0; clauses < Tape.MOST_BYTES; clauses++) {
                 if (!readClause()) {
-                    return false;
+                    return tape.position();
                 }
                 if (tape.nextSign() == Tape.THE_END) {
-                    return true;
+                    return draft.isWhole() ? NONE : tape.length();
                 }
                 if (!tape.take(';')) {
-                    return failHere();
+                    return tape.position();
                 }
             }
-            return failHere();
+            return tape.position();
         }
 
         private boolean readClause() {
             int kind = tape.nextSign();
             if (!addClause(kind)) {
-                return failHere();
+                return false;
             }
             tape.pass();
             return readItems(kind);
@@ -718,10 +698,10 @@ public final class HuntTable {
         private boolean readValue(int item) {
             int value = tape.takeNumber(MOST_DIGITS);
             if (value == NONE) {
-                return failHere();
+                return false;
             }
             if (value < LEAST[item] || value > MOST[item]) {
-                fault = tape.position() - 1;
+                tape.stepBack();
                 return false;
             }
             draft.put(item, value);
@@ -729,7 +709,10 @@ public final class HuntTable {
         }
     }
 
-    /** Reads the tape as a worth and writes it as a row of codes, operands ahead of their sign. */
+    /**
+     * Reads the tape as a worth and writes it as a row of codes, operands ahead of their sign. Where a method that reads
+     * answers false, the tape's position is the fault.
+     */
     private static final class WorthReader {
         private static final int MOST_DIGITS = 4;
         private static final int MOST_WITHIN = 6;
@@ -738,7 +721,6 @@ public final class HuntTable {
         // Every code comes from a byte of its own, but the last clause's stop, for which its y stands.
         private final int[] code = new int[Tape.MOST_BYTES];
         private int size;
-        private int fault;
 
         WorthReader(Tape tape) {
             this.tape = tape;
@@ -755,18 +737,18 @@ public final class HuntTable {
         int read() {
             tape.rewind();
             size = 0;
-            fault = NONE;
-            readClauses();
-            return fault;
-        }
-
-        private boolean failHere() {
-            fault = tape.position();
-            return false;
-        }
-
-        private boolean expect(int sign) {
-            return tape.take(sign) || failHere();
+            for (int clauses = 0; clauses < Tape.MOST_BYTES; clauses++) {
+                if (!readClause()) {
+                    return tape.position();
+                }
+                if (tape.nextSign() == Tape.THE_END) {
+                    return NONE;
+                }
+                if (!tape.take(';')) {
+                    return tape.position();
+                }
+            }
+            return tape.position();
         }
 
         private boolean write(int word) {
@@ -777,23 +759,8 @@ public final class HuntTable {
             return true;
         }
 
-        private boolean readClauses() {
-            for (int clauses = 0; clauses < Tape.MOST_BYTES; clauses++) {
-                if (!readClause()) {
-                    return false;
-                }
-                if (tape.nextSign() == Tape.THE_END) {
-                    return true;
-                }
-                if (!expect(';')) {
-                    return false;
-                }
-            }
-            return failHere();
-        }
-
         private boolean readClause() {
-            if (!expect('y') || !expect(':')) {
+            if (!tape.take('y') || !tape.take(':')) {
                 return false;
             }
             int sign = tape.nextSign();
@@ -810,7 +777,7 @@ public final class HuntTable {
         }
 
         private boolean readWhatFollowsCondition() {
-            if (!expect('?')) {
+            if (!tape.take('?')) {
                 return false;
             }
             int jump = size;
@@ -858,13 +825,13 @@ public final class HuntTable {
                 return readSum(within) && readComparison(within);
             }
             if (within >= MOST_WITHIN) {
-                return failHere();
+                return false;
             }
             tape.pass();
             if (sign == '!') {
                 return readUnit(within + 1) && write(Worths.SIGN + '!');
             }
-            return readCondition(within + 1) && expect(')');
+            return readCondition(within + 1) && tape.take(')');
         }
 
         private static boolean isComparison(int sign) {
@@ -874,7 +841,7 @@ public final class HuntTable {
         private boolean readComparison(int within) {
             int sign = tape.nextSign();
             if (!isComparison(sign)) {
-                return failHere();
+                return false;
             }
             tape.pass();
             return readSum(within) && write(Worths.SIGN + sign);
@@ -925,10 +892,10 @@ public final class HuntTable {
             }
             if (sign == '[' && within < MOST_WITHIN) {
                 tape.pass();
-                return readSum(within + 1) && expect(']');
+                return readSum(within + 1) && tape.take(']');
             }
             int number = tape.takeNumber(MOST_DIGITS);
-            return number == NONE ? failHere() : write(number);
+            return number != NONE && write(number);
         }
     }
 
@@ -1070,26 +1037,19 @@ public final class HuntTable {
                     return left & right;
                 case '|':
                     return left | right;
+                case '+':
+                    return bounded((long) left + right);
+                case '-':
+                    return bounded((long) left - right);
+                case '*':
+                    return bounded((long) left * right);
                 default:
-                    return reckon(sign, left, right);
+                    return right == 0 ? 0 : bounded((long) left / right);
             }
-        }
-
-        private static int reckon(int sign, int left, int right) {
-            if (sign == '+') {
-                return bounded((long) left + right);
-            }
-            if (sign == '-') {
-                return bounded((long) left - right);
-            }
-            if (sign == '*') {
-                return bounded((long) left * right);
-            }
-            return right == 0 ? 0 : bounded((long) left / right);
         }
 
         private static int bounded(long value) {
-            return (int) Math.max(-BOUND, Math.min(BOUND, value));
+            return value > BOUND ? BOUND : value < -BOUND ? -BOUND : (int) value;
         }
     }
 
@@ -2011,7 +1971,7 @@ public final class HuntTable {
             }
             queue[0] = duty;
             queued = 1;
-            for (int i = 0; i < queued; i++) {
+            for (int i = 0; i < queued && i < MOST_DUTIES; i++) {
                 int free = lookFrom(queue[i]);
                 if (free != NONE) {
                     giveWay(free);

@@ -116,6 +116,10 @@ public final class PromisesTest {
     t.end(159);
     due("2: feed of two to 161", t.feed(0x20000020, 0, 0, 0, 0), NONE);
     due("2: what is refused changes nothing", t.count(3), 159);
+    due("2: bytes of all five are counted", t.feed(0x20, 0x20, 0, 0, 0), NONE);
+    due("2: bytes of all five are counted", t.feed(0, 0x20, 0x20, 0, 0), NONE);
+    due("2: bytes of all five are counted", t.feed(0, 0, 0x20, 0x20, 0), NONE);
+    due("2: bytes of all five are counted", t.feed(0, 0, 0, 0x20, 0x20), NONE);
     due("2: feed of one to 160", t.feed(0, 0, 0x2000, 0, 0), 160);
   }
 
@@ -268,6 +272,13 @@ public final class PromisesTest {
     worthFault("y:1=2?(3)", 6);
     worthFault("y:[[[[[[t]]]]]]", NONE);
     worthFault("y:[[[[[[[t]]]]]]]", 8);
+    worthFault("y:t=[[[[[[p]]]]]]?1", NONE);
+    worthFault("y:t=[[[[[[[p]]]]]]]?1", 10);
+    worthFault("y:t=1&[[[[[[p]]]]]]=1?2", NONE);
+    worthFault("y:t=1&[[[[[[[p]]]]]]]=1?2", 12);
+    worthFault("y:t=1|!!!!!!p=1?2", NONE);
+    worthFault("y:t=1|((((((p=1))))))?2", NONE);
+    worthFault("y:t=1|(((((((p=1)))))))?2", 12);
     worthFault("y:!!!!!!t=1?2", NONE);
     worthFault("y:!!!!!!!t=1?2", 8);
     worthFault("y:!!!!!!(t=1)?2", 8);
