@@ -718,7 +718,7 @@ public final class HuntTable {
         private static final int MOST_WITHIN = 6;
 
         private final Tape tape;
-        // Every code comes from a byte of its own, but the last clause's stop, for which its y stands.
+        // The tape's length is enough: every code has a byte of its own, a clause's stop its y, a jump its ?.
         private final int[] code = new int[Tape.MOST_BYTES];
         private int size;
 
