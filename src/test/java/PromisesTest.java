@@ -202,6 +202,7 @@ public final class PromisesTest {
     huntFault("p;b;b;b;b;b;b;p", NONE);
     huntFault("p;b;b;b;b;b;b;b", 14);
     huntFault("p;p;b.", 5);
+    huntFault("p;p;b" + (char) 1, 5);
     huntFault("p;p;b" + (char) 160, 5);
     huntFault("p;p;b;" + " ".repeat(154), 160);
     huntFault("p;p;b" + " ".repeat(155), NONE);
