@@ -2,8 +2,26 @@
 final class Check {
   private static int wrong = 0;
   private static int calls = 0;
+  private static int sentences = 0;
+  private static int callsAhead = 0;
+  private static String sentence = "";
 
   private Check() {
+  }
+
+  /** What follows is the test of this sentence of the document; one without a call to check is wrong itself. */
+  static void says(String words) {
+    shutSentence();
+    sentence = words;
+    sentences++;
+    callsAhead = calls;
+  }
+
+  private static void shutSentence() {
+    if (sentences > 0 && calls == callsAhead) {
+      wrong++;
+      System.out.println("nothing is checked of \"" + sentence + "\"");
+    }
   }
 
   static void due(String call, long got, long want) {
@@ -11,7 +29,8 @@ final class Check {
     if (got != want) {
       wrong++;
       if (wrong <= 50) {
-        System.out.println(call + " answered " + got + ", due is " + want);
+        String told = sentence.isEmpty() ? "" : "\"" + sentence + "\": ";
+        System.out.println(told + call + " answered " + got + ", due is " + want);
       }
     }
   }
@@ -25,6 +44,10 @@ final class Check {
   }
 
   static void finish() {
+    shutSentence();
+    if (sentences > 0) {
+      System.out.println(sentences + " sentences");
+    }
     System.out.println(wrong == 0 ? "all " + calls + " answers are as due" : wrong + " of " + calls + " answers are not as due");
     if (wrong != 0) {
       System.exit(1);
