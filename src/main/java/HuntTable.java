@@ -1961,7 +1961,10 @@ public final class HuntTable {
 
         private boolean canJoin(int duty, int next) {
             int moves = turns[next] - turns[duty];
-            return moves > 0 && (reach[moves][places[duty]] >> places[next] & 1) == 1;
+            if (moves <= 0 || moves >= MOST_PLACES || !hunt.hasPlace(places[duty])) {
+                return false;
+            }
+            return (reach[moves][places[duty]] >> places[next] & 1) == 1;
         }
 
         /** Gives a duty a next one, others giving way to other next ones where they can. */
@@ -2001,6 +2004,9 @@ public final class HuntTable {
             int next = free;
             for (int i = 0; i < duties && next != NONE; i++) {
                 int duty = lookedFrom[next];
+                if (duty == NONE) {
+                    return;
+                }
                 int former = nextDuty[duty];
                 nextDuty[duty] = next;
                 dutyAhead[next] = duty;

@@ -61,6 +61,11 @@ public final class ActsEdgesTest {
     }
     due("nineteen more", full.feed(-1, -1, -1, -1, 0x00ffffff), 159);
     due("two more", full.feed(0, 0, 0, 0, 0x0101), NONE);
+    due("one more in each of two numbers", full.feed(1, 1, 0, 0, 0), NONE);
+    due("one more in each of two numbers", full.feed(0, 1, 1, 0, 0), NONE);
+    due("one more in each of two numbers", full.feed(0, 0, 1, 1, 0), NONE);
+    due("one more in each of two numbers", full.feed(0, 0, 0, 1, 1), NONE);
+    due("one more in each of two numbers", full.feed(1, 0, 0, 0, 1), NONE);
     due("twenty more", full.feed(-1, -1, -1, -1, -1), NONE);
     due("bytes", full.count(3), 159);
     due("one more", full.feed(0x0100, 0, 0, 0, 0), 160);
@@ -308,6 +313,14 @@ public final class ActsEdgesTest {
     due("again()", t.again(), NONE);
     due("ACTS", t.count(8), 0);
     due("undo()", t.undo(), NONE);
+
+    Check.says("TABLES are those of the HUNT that is told");
+    HuntTable other = Check.hunt("p;p;p;b");
+    due("six", other.tables(NONE, 0), 6);
+    Check.put(other, "p;p;b;b");
+    due("text(0)", other.text(0), 2);
+    due("two", other.tables(NONE, 0), 2);
+    due("of BAND 1", other.tables(1, 1), 1);
 
     Check.says("WORTHS, which holds, stay");
     Check.addWorth(t, "y:3");

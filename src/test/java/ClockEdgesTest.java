@@ -161,6 +161,10 @@ public final class ClockEdgesTest {
     due("2 0 is less together than 0 4: none up to 1", first.starts(1, 0), NONE);
     due("2 0 is less together than 0 4: how much", first.starts(9, 0), 2);
     due("2 0 is less together than 0 4: the row", first.starts(9, 1), 20);
+    HuntTable wide = Check.hunt("px1;px3;b;bs4;lk10");
+    due("9 0 alone: none up to 8", wide.starts(8, 0), NONE);
+    due("9 0 alone: how much", wide.starts(9, 0), 9);
+    due("9 0 alone: the row", wide.starts(9, 1), 90);
     HuntTable either = Check.hunt("px1;px2;b;bs2;lk2");
     due("0 2 or 2 0: how much", either.starts(9, 0), 2);
     due("0 2 or 2 0: the row", either.starts(9, 1), 2);
@@ -209,6 +213,28 @@ public final class ClockEdgesTest {
     due("a minute too soon", none.soonest(2, 1), NONE);
   }
 
+  /** The least order of four places by which a band that meets nobody has most points. */
+  private static int leastWithMost(HuntTable t, int band) {
+    int best = NONE;
+    int most = Integer.MIN_VALUE;
+    for (int order = 123; order <= 3210; order++) {
+      if (t.order(band, order) != NONE) {
+        boolean meets = false;
+        for (int turn = 0; turn < 4; turn++) {
+          for (int other = 0; other < 3; other++) {
+            meets |= other != band && t.at(other, turn) == t.at(band, turn);
+          }
+        }
+        if (!meets && t.points(band) > most) {
+          best = order;
+          most = t.points(band);
+        }
+        t.undo();
+      }
+    }
+    return best;
+  }
+
   private static void rich() {
     Check.says("RICH: MEETING none, by TURNS");
     HuntTable t = Check.hunt("p;p;b;b");
@@ -222,6 +248,29 @@ public final class ClockEdgesTest {
     t.start(1, 1);
     due("who clash by the clock need not meet", t.clashes(0), 1);
     due("01 beside 10", t.rich(0, 0), 1);
+
+    for (int turn = 0; turn < 3; turn++) {
+      HuntTable one = Check.hunt("p;p;p;b;b");
+      one.order(0, 12);
+      Check.addWorth(one, "y:t=" + turn + "&p=" + turn + "?5");
+      due("BAND 1 not where BAND 0 is in TURN " + turn, one.rich(1, 1), 0);
+      due("BAND 0 not where BAND 1 is", one.rich(0, 1), 5);
+      due("the least beside 012", one.rich(1, 0), 120);
+    }
+
+    Check.says("RICH: most POINTS, by its minutes and steps from the gate on");
+    for (String worth : new String[] {"y:m", "y:0-m", "y:d*t", "y:t=0?d*100+p;y:t=3?m", "y:0-m*d+p*b"}) {
+      HuntTable both = Check.hunt("px3y9;px7y2;px20;py5;bs3;b;bs2;lk7");
+      both.start(0, 21);
+      both.start(2, 4);
+      Check.addWorth(both, worth);
+      for (int band = 0; band < 3; band++) {
+        int most = both.rich(band, 1);
+        due("the least of those with most, by trying all", both.rich(band, 0), leastWithMost(both, band));
+        both.order(band, both.rich(band, 0));
+        due("POINTS by that ORDER", both.points(band), most);
+      }
+    }
 
     Check.says("RICH: likewise, of several the least");
     due("without a WORTH", Check.hunt("p;p;p;p;p;p;b").rich(0, 0), 12345);

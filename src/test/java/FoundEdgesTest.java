@@ -99,6 +99,13 @@ public final class FoundEdgesTest {
     due("two of three: 012 with 120, 201", Check.hunt("p;p;p;b;b;lf2").tables(NONE, 0), 12);
     due("three of three", Check.hunt("p;p;p;b;b;b;lf2").tables(NONE, 0), 12);
     due("four of four", Check.hunt("p;p;p;p;b;b;b;b;lf3").tables(NONE, 0), 576);
+    int[][] four = {{24, 24, 24, 24}, {24, 144, 168, 216}, {0, 144, 432, 576}, {0, 144, 432, 576}};
+    for (int bands = 1; bands <= 4; bands++) {
+      for (int may = 0; may <= 3; may++) {
+        HuntTable t = Check.hunt("p;p;p;p;" + "b;".repeat(bands) + "lf" + may);
+        due(bands + " of four, FOLLOWING " + may + " times", t.tables(NONE, 0), four[bands - 1][may]);
+      }
+    }
     due("five of five, once", Check.hunt("p;p;p;p;p;b;b;b;b;b;lf1").tables(NONE, 0), 0);
 
     Check.says("1,000 tables at most are counted");
@@ -138,6 +145,7 @@ public final class FoundEdgesTest {
     due("ORDERS that are told stay", told.band(1, 1), 1);
 
     Check.says("the ORDER of a BAND in the i-th one (by ORDERS of BAND 0, then 1, .., rising)");
+    due("asked for ahead of how many", Check.hunt("p;p;p;b;lf9").tables(5, 0), 210);
     HuntTable three = Check.hunt("p;p;p;b;b;b;lf9");
     int[][] rows = {{12, 120, 201}, {12, 201, 120}, {21, 102, 210}, {21, 210, 102}, {102, 21, 210}, {102, 210, 21},
         {120, 12, 201}, {120, 201, 12}, {201, 12, 120}, {201, 120, 12}, {210, 21, 102}, {210, 102, 21}};
@@ -187,7 +195,10 @@ public final class FoundEdgesTest {
     due("to 0 in TURN 1: where 0 itself was", t.wrong(0, 1, 0, 1), 1);
     due("to 0 in TURN 2: 1 in TURN 1, 2 in TURN 2", t.wrong(0, 2, 0, 1), 2);
     due("to 1 in TURN 2: 1 in TURN 1, itself in TURN 2", t.wrong(0, 2, 1, 1), 1);
-    due("three others at once", all.wrong(0, 1, 0, 1), 2);
+    due("to 1 in TURN 1: where 1 itself was; 0 in TURN 2, where 2 was", t.wrong(1, 1, 1, 1), 1);
+    due("to 2 in TURN 1: where 2 itself was; 1 in TURN 2, where 0 was", t.wrong(2, 1, 2, 1), 1);
+    due("to 0 in TURN 1: two others at once", all.wrong(0, 1, 0, 1), 2);
+    due("three others at once by its ORDER, none by its way", all.wrong(0, 0, 1, 1), 3);
     due("one alone", Check.hunt("p;p;b").wrong(0, 1, 0, 1), 0);
 
     Check.says("all else as it is");
@@ -237,6 +248,16 @@ public final class FoundEdgesTest {
     due("as many as PLACES, each full in each TURN", Check.hunt("p;p;p;p;p;p;b;b;b;b;b;b").helpers(40), 6);
     due("one goes with one BAND", Check.hunt("px1;px2;px3;px4;px5;px6;b").helpers(40), 1);
     due("each waits at its PLACE", Check.hunt("px1;px2;px3;px4;px5;px6;b").helpers(0), 6);
+    HuntTable late = Check.hunt("px1;px2;px3;px4;px5;px6;b;b;b;b");
+    int[] orders = {12345, 123045, 230145, 301245};
+    for (int band = 0; band < 4; band++) {
+      late.order(band, orders[band]);
+    }
+    due("4 and 5 in the last TURNS alone", late.helpers(0), 6);
+    HuntTable way = Check.hunt("px3;px2;px1;px4;b;b");
+    way.order(0, 1203);
+    way.order(1, 3012);
+    due("the nearest is not the right one: from 1 to 2, from 3 to 0", way.helpers(1), 2);
     HuntTable alike = Check.hunt("px1;px9;b;b;b");
     alike.order(1, 1);
     due("BANDS that go along need one", alike.helpers(8), 1);

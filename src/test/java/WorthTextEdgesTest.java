@@ -154,6 +154,12 @@ public final class WorthTextEdgesTest {
     holds("t<1", false);
     holds("t>0", true);
     holds("t>1", false);
+    holds("t<2&t=1", true);
+    holds("t>0&t=1", true);
+    holds("!t<2", false);
+    holds("!t>0", false);
+    holds("!t<1", true);
+    holds("!t>1", true);
     holds("!t=2", true);
     holds("!t=1", false);
     holds("!!t=1", true);
