@@ -30,6 +30,19 @@ public final class ActsEdgesTest {
     due("lawful()", t.lawful(), NONE);
     due("the TAPE is empty", t.count(3), 0);
     due("WORTHS", t.count(2), 0);
+
+    Check.says("The constants");
+    due("NONE", HuntTable.NONE, -1);
+    due("HIDDEN", HuntTable.HIDDEN, -1000000);
+
+    Check.says("An object is used for at most 512 calls");
+    HuntTable used = new HuntTable();
+    used.feed('p' << 24 | ';' << 16 | 'p' << 8 | ';', 'b' << 24, 0, 0, 0);
+    used.text(0);
+    for (int call = 3; call <= 511; call++) {
+      due("call " + call, used.order(0, call % 2 == 0 ? 1 : 10), Math.min(call - 2, 40));
+    }
+    due("the last call", used.band(0, 1), 10);
   }
 
   private static void feed() {

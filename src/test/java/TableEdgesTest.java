@@ -329,7 +329,11 @@ public final class TableEdgesTest {
     due("told, it does not hold yet", t.count(6), NONE);
     t.worth(0);
     due("it holds", t.points(0), 21);
-    t.worth(NONE);
+    Check.says("The WORTH that holds (NONE: none)");
+    due("worth(NONE)", t.worth(NONE) ? 1 : 0, 1);
     due("none again", t.points(0), 0);
+    due("none again", t.count(6), NONE);
+    due("worth(0)", t.worth(0) ? 1 : 0, 1);
+    due("it holds again", t.points(0), 21);
   }
 }
